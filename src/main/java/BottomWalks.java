@@ -74,13 +74,13 @@ public final class BottomWalks {
     }
 
     public int bridged(int k) {
-        int before = 0;
+        int bridgesBefore = 0;
         for (int ping = 0; ping < PINGS; ping++) {
             if (walk.isBridge(ping)) {
-                if (before == k) {
+                if (bridgesBefore == k) {
                     return ping;
                 }
-                before++;
+                bridgesBefore++;
             }
         }
         return NONE;
@@ -366,8 +366,7 @@ public final class BottomWalks {
             }
             int first = neighbour(ping, -1);
             int second = neighbour(ping, 1);
-            return first != NONE && second != NONE
-                    && second - first <= WIDEST_BRIDGE;
+            return first != NONE && second != NONE && second - first <= WIDEST_BRIDGE;
         }
 
         boolean hasBottom(int ping) {
@@ -441,7 +440,7 @@ public final class BottomWalks {
 
         private void sumUp(int ping, int before) {
             int deepest = highest(ping);
-            for (int k = lowest(ping); k <= deepest; k++) {
+            for (int k = lowest(ping); k <= deepest && echoes.isSample(k); k++) {
                 long sum = echoes.strength(frequencyWalked, ping, k);
                 if (before != NONE) {
                     sum += sumAt(before, bestBefore(before, ping, k));
@@ -473,9 +472,12 @@ public final class BottomWalks {
                 to = Math.min(to, k + steepness);
             }
             int best = from;
+            long greatestSum = sumAt(ping, from);
             for (int other = from + 1; other <= to; other++) {
-                if (sumAt(ping, other) > sumAt(ping, best)) {
+                long sum = sumAt(ping, other);
+                if (sum > greatestSum) {
                     best = other;
+                    greatestSum = sum;
                 }
             }
             return best;

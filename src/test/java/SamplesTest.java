@@ -111,6 +111,13 @@ public final class SamplesTest {
         x.loss(10.0, 10.0);
         Due.number("nothing told is 0, with loss too", 0.0, x.joined(0, 1, 1));
         Due.number("cut of 3.999 + 20 + 0.04", 24.0, strengthOfLast(x, 2));
+        x.value(0, 1, 0.0);
+        Due.number("0 told is told: 20 + 0.04", 20.0, strengthOfLast(x, 2));
+        x.noise(1000.0);
+        Due.number("far below 0 it is 0", 0.0, strengthOfLast(x, 2));
+        BottomWalks deep = new BottomWalks(64, 800);
+        deep.value(0, 63, 5.0);
+        Due.number("nothing is lost at first, however deep", 5.0, strengthOfLast(deep, 64));
     }
 
     private static void loss() {
