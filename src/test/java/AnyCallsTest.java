@@ -14,47 +14,50 @@ public final class AnyCallsTest {
     };
     private static long seed = 4711L;
 
+    /** Each object is called at most 379 + 12 + 2 * 5 * 12 times: no more is promised of it than 512 calls. */
     public static void main(String[] args) {
-        for (int object = 0; object < 400; object++) {
+        for (int object = 0; object < 4000; object++) {
             BottomWalks x = new BottomWalks(anyInt(), anyInt());
-            for (int call = 0; call < 512; call++) {
-                changeOrAsk(x);
+            int calls = 0;
+            while (calls < 380) {
+                calls += changeOrAsk(x);
             }
-            long before = ask(x);
-            Due.whole("asked twice", before, ask(x));
+            long before = ask(x, object);
+            Due.whole("asked twice", before, ask(x, object));
         }
         Due.end();
     }
 
-    private static void changeOrAsk(BottomWalks x) {
-        switch (next(16)) {
-            case 0: case 1: case 2: x.value(anyInt(), anyInt(), anyDouble()); break;
-            case 3: x.loss(anyDouble(), anyDouble()); break;
-            case 4: x.noise(anyDouble()); break;
-            case 5: case 6: x.run(anyInt(), anyInt()); break;
-            case 7: x.edit(anyInt(), anyDouble()); break;
-            case 8: x.lost(anyInt()); break;
-            case 9: x.speed(anyDouble(), anyDouble()); break;
-            case 10: x.ball(anyDouble(), anyDouble()); break;
-            case 11: x.frequency(anyInt()); break;
-            case 12: x.tide(anyInt(), anyDouble()); break;
-            case 13: x.turned(anyInt(), anyDouble()); break;
-            default: askOne(x, anyInt(), anyInt(), anyInt(), anyDouble());
+    /** How many calls it made. */
+    private static int changeOrAsk(BottomWalks x) {
+        switch (next(20)) {
+            case 0: case 1: case 2: case 3: case 4: x.value(anyInt(), anyInt(), anyDouble()); return 1;
+            case 5: x.loss(anyDouble(), anyDouble()); return 1;
+            case 6: x.noise(anyDouble()); return 1;
+            case 7: case 8: x.run(anyInt(), anyInt()); return 1;
+            case 9: x.edit(anyInt(), anyDouble()); return 1;
+            case 10: x.lost(anyInt()); return 1;
+            case 11: case 12: x.speed(anyDouble(), anyDouble()); return 1;
+            case 13: case 14: x.ball(anyDouble(), anyDouble()); return 1;
+            case 15: x.frequency(anyInt()); return 1;
+            case 16: x.tide(anyInt(), anyDouble()); return 1;
+            case 17: x.turned(anyInt(), anyDouble()); return 1;
+            case 18: x.value(next(32), next(9), next(8000) * 0.125); return 1;
+            default: askOne(x, anyInt(), anyInt(), anyInt(), anyDouble()); return 12;
         }
     }
 
-    private static long ask(BottomWalks x) {
+    private static long ask(BottomWalks x, int first) {
         long mixed = 0L;
-        for (int ping : INTS) {
-            for (int k : INTS) {
-                for (int f : INTS) {
-                    mixed = mixed * 31 + askOne(x, ping, k, f, DOUBLES[(f & 7) + (k & 15)]);
-                }
-            }
+        for (int i = 0; i < 5; i++) {
+            int at = first + i * 7;
+            mixed = mixed * 31 + askOne(x, INTS[at % INTS.length], INTS[(at / 3) % INTS.length],
+                    INTS[(at / 5) % INTS.length], DOUBLES[at % DOUBLES.length]);
         }
         return mixed;
     }
 
+    /** Twelve questions. */
     private static long askOne(BottomWalks x, int ping, int k, int f, double v) {
         double[] numbers = {
             x.bottom(ping), x.dead(ping), x.surface(ping), x.bent(ping, k), x.joined(f, ping, k), x.factor(v),

@@ -1,3 +1,5 @@
+import java.util.List;
+
 /** Compares answers with those that are due, prints each wrong one, and ends with exit code 1 if there was one. */
 final class Due {
     private static int asked = 0;
@@ -21,6 +23,14 @@ final class Due {
 
     static void no(String call, boolean got) {
         count(call, !got, "false", "" + got);
+    }
+
+    /** Of two objects that must answer alike. */
+    static void same(String call, List<String> want, List<String> got) {
+        count(call + ", answers", want.size() == got.size(), "" + want.size(), "" + got.size());
+        for (int i = 0; i < want.size() && i < got.size(); i++) {
+            count(call, want.get(i).equals(got.get(i)), want.get(i), got.get(i));
+        }
     }
 
     static void end() {

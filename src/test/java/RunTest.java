@@ -5,9 +5,15 @@ public final class RunTest {
     public static void main(String[] args) {
         ranges();
         refusedRunsChangeNothing();
+        noPingForTheWalk();
+        onePing();
+        allPings();
+        greatest();
         pingsOfTheWalk();
         steepness();
         equalRows();
+        equalRowsOfThreePings();
+        equalRowsBesideEditedAndLostPings();
         editedPings();
         greatSums();
         againstAllRows();
@@ -50,6 +56,116 @@ public final class RunTest {
         Due.whole("5 a new run", 60, x.run(3, 64));
         Due.number("5 the run before is gone", -1.0, x.bottom(0));
         Due.number("5 the new one counts", 2.0, x.bottom(2));
+    }
+
+    /** Each in its own way without a ping for the walk; the run before, over ping 0 of frequency 1, stays. */
+    private static void noPingForTheWalk() {
+        for (int way = 0; way < 6; way++) {
+            BottomWalks x = withoutPings(way);
+            Due.whole("5 no ping for the walk, " + way, -1, x.run(20, 64));
+            Due.yes("7 the run before stays", x.greatest());
+            Due.same("5 the run before stays, " + way, Answers.of(withoutPings(way)), Answers.of(x));
+            BottomWalks never = new BottomWalks(Boats.SAMPLES, 8);
+            never.value(20, 0, 5.0);
+            Due.whole("5 no ping for the walk, without a run before", -1, never.run(20, 64));
+            Due.no("7 still no run", never.greatest());
+            Due.number("6 still no run", -1.0, never.bottom(20));
+            Due.whole("5 with the next ping there is one", 5, never.run(21, 64));
+            Due.yes("7 a run", never.greatest());
+        }
+    }
+
+    private static BottomWalks withoutPings(int way) {
+        BottomWalks x = new BottomWalks(Boats.SAMPLES, 8);
+        x.frequency(1);
+        x.value(0, 2, 50.0);
+        x.value(0, 4, 20.0);
+        x.run(1, 3);
+        switch (way) {
+            case 0: x.frequency(2); break;
+            case 1: x.lost(0); break;
+            case 2: x.lost(0); x.value(0, 1, 60.0); break;
+            case 3: x.frequency(2); x.value(20, 1, 60.0); break;
+            case 4: x.frequency(2); x.edit(20, 1.0); x.edit(31, 1.0); break;
+            default: x.frequency(2); x.value(3, 0, 9.0); x.lost(3); break;
+        }
+        return x;
+    }
+
+    private static void onePing() {
+        int[] pings = {0, 1, 30, 31};
+        for (int ping : pings) {
+            for (int k = 0; k < 64; k++) {
+                BottomWalks x = new BottomWalks(64, 8);
+                x.value(ping, k, 8.0);
+                x.value(ping, 63 - k, 7.0);
+                Due.whole("5 one ping, sample " + k, 8, x.run(ping + 1, 0));
+                Due.number("6 one ping, sample " + k, k + 1, x.bottom(ping));
+                Due.whole("5 the pings before it are none for the walk", -1, x.run(ping, 0));
+            }
+        }
+        BottomWalks equal = new BottomWalks(64, 8);
+        equal.value(0, 63, 5.0);
+        Due.whole("5 the last sample", 5, equal.run(1, 0));
+        Due.number("6 the last sample", 64.0, equal.bottom(0));
+        equal.value(0, 62, 5.0);
+        equal.run(1, 0);
+        Due.number("5 the one before it is as good", 63.0, equal.bottom(0));
+        equal.value(0, 0, 5.0);
+        equal.run(1, 64);
+        Due.number("5 so is the first", 1.0, equal.bottom(0));
+        equal.value(0, 62, 5.9);
+        equal.run(1, 64);
+        Due.number("5 what is cut off does not count", 1.0, equal.bottom(0));
+        equal.value(0, 62, 6.0);
+        equal.run(1, 64);
+        Due.number("5 a whole one does", 63.0, equal.bottom(0));
+    }
+
+    private static void allPings() {
+        BottomWalks x = new BottomWalks(4, 8);
+        for (int ping = 0; ping < 32; ping++) {
+            x.value(ping, ping % 4, 1.0 + ping);
+        }
+        Due.whole("5 all pings", 32 * 33 / 2, x.run(32, 3));
+        for (int ping = 0; ping < 32; ping++) {
+            Due.number("6 all pings", ping % 4 + 1, x.bottom(ping));
+        }
+        Due.whole("5 all but the last", 32 * 33 / 2 - 32, x.run(31, 3));
+        Due.number("6 all but the last", -1.0, x.bottom(31));
+        Due.whole("5 level, along the last samples", 4 + 8 + 12 + 16 + 20 + 24 + 28 + 32, x.run(32, 0));
+        for (int ping = 0; ping < 32; ping++) {
+            x.lost(ping);
+        }
+        Due.whole("5 all lost", -1, x.run(32, 3));
+        Due.number("6 the run before stays", 4.0, x.bottom(31));
+        for (int ping = 0; ping < 32; ping++) {
+            x.edit(ping, ping * 7.0);
+        }
+        Due.whole("5 all lost, all edited", 0, x.run(32, 0));
+        Due.number("6 all lost, all edited", 217.0, x.bottom(31));
+    }
+
+    private static void greatest() {
+        BottomWalks x = new BottomWalks(2, 8);
+        Due.no("7 a new object", x.greatest());
+        x.value(0, 0, 0.0);
+        Due.no("7 told, no run", x.greatest());
+        x.edit(1, 1.0);
+        Due.no("7 edited, no run", x.greatest());
+        x.run(0, 0);
+        x.run(33, 0);
+        x.run(1, 65);
+        x.run(1, -1);
+        Due.no("7 refused runs", x.greatest());
+        Due.whole("5 a sum of 0 is a sum", 0, x.run(1, 0));
+        Due.yes("7 a run", x.greatest());
+        x.value(0, 1, 9.0);
+        Due.yes("7 greater strengths now: none had a greater sum then", x.greatest());
+        x.frequency(3);
+        x.lost(0);
+        x.run(1, 0);
+        Due.yes("7 it stays", x.greatest());
     }
 
     private static void pingsOfTheWalk() {
@@ -125,6 +241,78 @@ public final class RunTest {
         Due.whole("5 a sum of 0", 0, nothing.run(2, 1));
         Due.number("5 all rows are equal", 1.0, nothing.bottom(0));
         Due.number("5 all rows are equal", 1.0, nothing.bottom(1));
+    }
+
+    private static void equalRowsOfThreePings() {
+        BottomWalks x = new BottomWalks(5, 8);
+        for (int ping = 0; ping < 3; ping++) {
+            for (int k = 0; k < 5; k++) {
+                x.value(ping, k, 6.0);
+            }
+        }
+        Due.whole("5 all rows are equal", 18, x.run(3, 1));
+        for (int ping = 0; ping < 3; ping++) {
+            Due.number("5 the first samples", 1.0, x.bottom(ping));
+        }
+        x.value(2, 3, 7.0);
+        Due.whole("5 one is greater at the last ping", 19, x.run(3, 1));
+        Due.number("5 it is taken", 4.0, x.bottom(2));
+        Due.number("5 from the least deep one that leads there", 3.0, x.bottom(1));
+        Due.number("5 and from the least deep one before", 2.0, x.bottom(0));
+        x.value(0, 4, 7.0);
+        Due.whole("5 one is greater at the first ping", 20, x.run(3, 1));
+        Due.number("5 it is taken", 5.0, x.bottom(0));
+        Due.number("5 the less deep one between", 4.0, x.bottom(1));
+        Due.number("5 and the last as before", 4.0, x.bottom(2));
+        Due.whole("5 level: the one or the other", 19, x.run(3, 0));
+        Due.number("5 the less deep one", 4.0, x.bottom(0));
+        BottomWalks y = new BottomWalks(5, 8);
+        y.value(0, 0, 6.0);
+        y.value(0, 4, 6.0);
+        y.value(1, 1, 6.0);
+        y.value(1, 3, 6.0);
+        y.value(2, 2, 6.0);
+        Due.whole("5 two rows meet at the last ping", 18, y.run(3, 1));
+        Due.number("5 less deep at the last at which they differ", 2.0, y.bottom(1));
+        Due.number("5 and so before it", 1.0, y.bottom(0));
+        y.value(1, 1, 5.0);
+        y.value(0, 0, 7.0);
+        Due.whole("5 as great by the less deep one", 18, y.run(3, 1));
+        Due.number("5 the less deep one", 2.0, y.bottom(1));
+        y.value(0, 0, 6.0);
+        Due.whole("5 greater by the deeper one", 18, y.run(3, 1));
+        Due.number("5 the deeper one", 4.0, y.bottom(1));
+        Due.number("5 the deeper one", 5.0, y.bottom(0));
+    }
+
+    private static void equalRowsBesideEditedAndLostPings() {
+        BottomWalks x = new BottomWalks(5, 8);
+        for (int ping = 0; ping < 3; ping++) {
+            x.value(ping, 1, 6.0);
+            x.value(ping, 3, 6.0);
+        }
+        x.edit(1, 4.0);
+        Due.whole("5 beside an edited ping", 18, x.run(3, 0));
+        Due.number("5 less deep before it", 2.0, x.bottom(0));
+        Due.number("5 less deep behind it", 2.0, x.bottom(2));
+        Due.number("5 itself as told", 4.0, x.bottom(1));
+        BottomWalks y = new BottomWalks(5, 8);
+        y.value(0, 1, 6.0);
+        y.value(0, 3, 6.0);
+        y.value(1, 1, 9.0);
+        y.value(2, 1, 6.0);
+        y.value(2, 3, 6.0);
+        Due.whole("5 level, with the ping between", 21, y.run(3, 0));
+        y.value(1, 3, 9.0);
+        y.lost(1);
+        Due.whole("5 level, without the ping between", 12, y.run(3, 0));
+        Due.number("5 less deep", 2.0, y.bottom(0));
+        Due.number("5 less deep", 2.0, y.bottom(2));
+        BottomWalks edited = new BottomWalks(3, 8);
+        edited.edit(0, 3.0);
+        edited.value(1, 2, 0.0);
+        Due.whole("5 a sum of 0 behind an edited ping", 0, edited.run(2, 0));
+        Due.number("5 the first sample", 1.0, edited.bottom(1));
     }
 
     private static void editedPings() {

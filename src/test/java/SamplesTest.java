@@ -16,6 +16,7 @@ public final class SamplesTest {
         surface();
         frequency();
         joined();
+        joinedOfEverySample();
         empty();
         Due.end();
     }
@@ -258,6 +259,41 @@ public final class SamplesTest {
         BottomWalks one = new BottomWalks(1, 800);
         one.value(31, 0, 5.0);
         Due.number("17 an only sample is the last one", 5.0, one.joined(0, 31, 0));
+    }
+
+    /** From the first to the last but one with the next one; the last alone; of each frequency, whichever is chosen. */
+    private static void joinedOfEverySample() {
+        int[] counts = {1, 2, 3, 64};
+        for (int samples : counts) {
+            BottomWalks x = new BottomWalks(samples, 3);
+            for (int f = 2; f < 4; f++) {
+                x.frequency(f);
+                for (int k = 0; k < samples; k++) {
+                    x.value(31, k, strengthOf(f, k));
+                }
+            }
+            for (int chosen = 0; chosen < 4; chosen += 2) {
+                x.frequency(chosen);
+                joinedOfFrequency(x, samples, 2);
+                joinedOfFrequency(x, samples, 3);
+            }
+        }
+    }
+
+    private static double strengthOf(int f, int k) {
+        return 17.0 * f + k * k % 37;
+    }
+
+    private static void joinedOfFrequency(BottomWalks x, int samples, int f) {
+        for (int k = 0; k < samples - 1; k++) {
+            double a = ((k + 1) * 0.375) * ((k + 1) * 0.375);
+            double b = ((k + 2) * 0.375) * ((k + 2) * 0.375);
+            double due = (strengthOf(f, k) * a + strengthOf(f, k + 1) * b) / (a + b);
+            Due.number("17 of sample " + k + " of " + samples, due, x.joined(f, 31, k));
+        }
+        Due.number("17 of the last of " + samples, strengthOf(f, samples - 1), x.joined(f, 31, samples - 1));
+        Due.number("17 behind the last of " + samples, -1.0, x.joined(f, 31, samples));
+        Due.number("17 of a ping that was not told", 0.0, x.joined(f, 30, 0));
     }
 
     private static void empty() {

@@ -8,11 +8,18 @@ public final class TablesTest {
         speedRanges();
         speedSteps();
         twentySpeeds();
+        rowsAroundASample();
+        anyOrderOfSpeeds();
         bent();
+        bentFromTheLeftToTheRight();
+        bentOfMinusOne();
         turned();
         ballRanges();
         factor();
+        aroundARow();
+        factorFromTheLeftToTheRight();
         twentyBalls();
+        everyNumberOfBalls();
         Due.end();
     }
 
@@ -73,6 +80,47 @@ public final class TablesTest {
         Due.no("14 there are still 20", x.speed(39.0, 1500.0));
     }
 
+    /** The last sample of three is at depth 4.0: a row just there, just above it, just below it. */
+    private static void rowsAroundASample() {
+        double[] depths = {Math.nextDown(4.0), 4.0, Math.nextUp(4.0)};
+        double[] speeds = {1600.0, 1600.0, 1400.0};
+        for (int i = 0; i < depths.length; i++) {
+            BottomWalks x = new BottomWalks(3, 16);
+            x.speed(0.0, 1400.0);
+            x.speed(depths[i], 1600.0);
+            double first = 0.0 + 2.0 * 1400.0 / 1500.0 + 2.0 * 1400.0 / 1500.0;
+            Due.number("15 before a row from " + depths[i], first, x.bent(0, 1));
+            Due.number("15 at a row from " + depths[i], first + 2.0 * speeds[i] / 1500.0, x.bent(0, 2));
+        }
+        BottomWalks deeper = new BottomWalks(3, 16);
+        deeper.speed(Math.nextUp(4.0), 1600.0);
+        deeper.speed(9.0, 1350.0);
+        Due.number("15 all rows are deeper: of the least deep", 0.0 + 2.0 * 1600.0 / 1500.0, deeper.bent(0, 0));
+        deeper.speed(Double.MIN_VALUE, 1450.0);
+        Due.number("15 still all deeper than 0", 0.0 + 2.0 * 1450.0 / 1500.0, deeper.bent(0, 0));
+        deeper.speed(0.0, 1550.0);
+        Due.number("15 one that is not deeper", 0.0 + 2.0 * 1550.0 / 1500.0, deeper.bent(0, 0));
+    }
+
+    private static void anyOrderOfSpeeds() {
+        int[] strides = {1, 3, 7, 9, 11, 13, 17, 19};
+        for (int stride : strides) {
+            BottomWalks x = new BottomWalks(20, 8);
+            for (int i = 0; i < 20; i++) {
+                int row = (i * stride + 7) % 20;
+                Due.yes("14 row " + row + " as number " + i, x.speed(row, 1300.0 + row * 7.0));
+                Due.yes("14 told twice", x.speed(row, 1310.0 + row * 7.0));
+            }
+            double way = 0.0;
+            for (int k = 0; k < 20; k++) {
+                way = way + 1.0 * (1310.0 + k * 7.0) / 1500.0;
+                Due.number("15 down to row " + k, way, x.bent(0, k));
+            }
+            Due.no("14 a 21st", x.speed(20.0, 1500.0));
+            Due.no("14 a 21st between", x.speed(Math.nextUp(7.0), 1500.0));
+        }
+    }
+
     private static void bent() {
         BottomWalks x = new BottomWalks(3, 1);
         int[][] none = {
@@ -91,6 +139,37 @@ public final class TablesTest {
         Due.number("15 each ping has its own", 0.375, x.bent(5, 2));
         x.tide(5, -1.375);
         Due.number("15 it may be -1.0, too", -1.0, x.bent(5, 2));
+    }
+
+    private static void bentFromTheLeftToTheRight() {
+        double[] speeds = {1300.0, 1301.1, 1433.3, 1499.9, 1510.7, 1699.9};
+        int[] eighths = {1, 3, 7, 77, 799};
+        for (double v : speeds) {
+            for (int part : eighths) {
+                BottomWalks x = new BottomWalks(64, part);
+                x.speed(0.0, v);
+                x.turned(3, 17.3);
+                x.tide(3, 1.7);
+                double angle = 0.017453292519943295 * 17.3;
+                double metre = part * 0.125;
+                double way = 0.0;
+                for (int k = 0; k < 64; k++) {
+                    way = way + metre * v / 1500.0;
+                    Due.number("15 way at " + v + " to " + k, way, x.bent(2, k));
+                    Due.number("15 turned, with tide", way * (1.0 - angle * angle * 0.5) + 1.7, x.bent(3, k));
+                }
+            }
+        }
+    }
+
+    private static void bentOfMinusOne() {
+        BottomWalks x = new BottomWalks(2, 8);
+        x.tide(0, -2.0);
+        Due.number("15 truly at -1.0", -1.0, x.bent(0, 0));
+        Due.number("15 and the next one at 0.0", 0.0, x.bent(0, 1));
+        Due.number("15 of no sample", -1.0, x.bent(0, 2));
+        x.tide(0, -20.0);
+        Due.number("15 above the water", -19.0, x.bent(0, 0));
     }
 
     private static void turned() {
@@ -170,6 +249,51 @@ public final class TablesTest {
         Due.number("19 the least step, second", 3.0, near.factor(Double.MIN_VALUE));
     }
 
+    private static void aroundARow() {
+        BottomWalks x = new BottomWalks(1, 8);
+        x.ball(10.0, 1.0);
+        x.ball(20.0, 5.0);
+        x.ball(40.0, 0.5);
+        Due.number("19 just before the first", 1.0, x.factor(Math.nextDown(10.0)));
+        Due.number("19 on the first", 1.0, x.factor(10.0));
+        double behindFirst = Math.nextUp(10.0);
+        Due.number("19 just behind the first", 1.0 + (5.0 - 1.0) * ((behindFirst - 10.0) / (20.0 - 10.0)),
+                x.factor(behindFirst));
+        double beforeSecond = Math.nextDown(20.0);
+        Due.number("19 just before the second", 1.0 + (5.0 - 1.0) * ((beforeSecond - 10.0) / (20.0 - 10.0)),
+                x.factor(beforeSecond));
+        Due.number("19 on the second", 5.0, x.factor(20.0));
+        double behindSecond = Math.nextUp(20.0);
+        Due.number("19 just behind the second", 5.0 + (0.5 - 5.0) * ((behindSecond - 20.0) / (40.0 - 20.0)),
+                x.factor(behindSecond));
+        Due.number("19 on the last", 0.5, x.factor(40.0));
+        Due.number("19 just behind the last", 0.5, x.factor(Math.nextUp(40.0)));
+        x.ball(40.0, 0.75);
+        Due.number("19 the last replaced", 0.75, x.factor(40.0));
+        Due.number("19 the way there too", 5.0 + (0.75 - 5.0) * ((30.0 - 20.0) / (40.0 - 20.0)), x.factor(30.0));
+        x.ball(30.0, 9.0);
+        Due.number("19 a row between", 9.0, x.factor(30.0));
+    }
+
+    private static void factorFromTheLeftToTheRight() {
+        double[][] rows = {
+            {3.0, 0.3, 10.0, 9.1}, {0.7, 9.9, 1.3, 0.1}, {0.0, 0.1, 100000.0, 10.0}, {5.5, 7.7, 99.9, 7.7}
+        };
+        for (double[] row : rows) {
+            double d = row[0];
+            double a = row[1];
+            double e = row[2];
+            double b = row[3];
+            BottomWalks x = new BottomWalks(1, 8);
+            x.ball(e, b);
+            x.ball(d, a);
+            for (int i = 1; i < 40; i++) {
+                double day = d + (e - d) * i / 41.0;
+                Due.number("19 day " + day, a + (b - a) * ((day - d) / (e - d)), x.factor(day));
+            }
+        }
+    }
+
     private static void twentyBalls() {
         BottomWalks x = new BottomWalks(1, 8);
         for (int i = 0; i < 20; i++) {
@@ -185,5 +309,28 @@ public final class TablesTest {
         Due.yes("18 one of the 20 is replaced", x.ball(19.0, 2.0));
         Due.number("18 replaced", 2.0, x.factor(77.0));
         Due.yes("14 speeds are rows of their own", x.speed(0.0, 1500.0));
+    }
+
+    /** From no row to twenty: the first one's before, the last one's behind, each on its own day. */
+    private static void everyNumberOfBalls() {
+        for (int rows = 0; rows <= 20; rows++) {
+            BottomWalks x = new BottomWalks(1, 8);
+            for (int i = rows; i >= 1; i--) {
+                Due.yes("18 row " + i + " of " + rows, x.ball(i * 3.0, i * 0.4));
+            }
+            double last = rows * 0.4;
+            Due.number("19 before, with " + rows, rows == 0 ? 1.0 : 0.4, x.factor(0.0));
+            Due.number("19 behind, with " + rows, rows == 0 ? 1.0 : last, x.factor(100000.0));
+            for (int i = 1; i <= rows; i++) {
+                Due.number("19 row " + i + " of " + rows, i * 0.4, x.factor(i * 3.0));
+            }
+            if (rows < 20) {
+                Due.yes("18 one more than " + rows, x.ball(99.0, 9.0));
+            } else {
+                Due.no("18 one more than 20", x.ball(99.0, 9.0));
+                Due.no("18 one before all", x.ball(0.0, 9.0));
+            }
+            Due.number("19 with one more than " + rows, rows < 20 ? 9.0 : last, x.factor(99.0));
+        }
     }
 }
