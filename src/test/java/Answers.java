@@ -1,7 +1,7 @@
 import java.util.ArrayList;
 import java.util.List;
 
-/** What an object answers to every call that can tell one state from another, in some 320 calls. */
+/** What an object answers to every call that can tell one state from another, in some 300 calls. */
 final class Answers {
     private final BottomWalks x;
     private final List<String> answers = new ArrayList<>();
