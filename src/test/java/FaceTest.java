@@ -28,13 +28,14 @@ public final class FaceTest {
         constructors();
         fields();
         classesInside();
+        sizes();
         Due.end();
     }
 
     private static void methods() {
         List<String> open = new ArrayList<>();
         TreeSet<String> openNames = new TreeSet<>();
-        TreeSet<String> hiddenNames = new TreeSet<>();
+        TreeSet<String> hiddenNames = namesInside();
         for (Method method : BottomWalks.class.getDeclaredMethods()) {
             if (Modifier.isPrivate(method.getModifiers())) {
                 hiddenNames.add(method.getName());
@@ -49,6 +50,17 @@ public final class FaceTest {
         Due.whole("methods in the face", METHODS.length, open.size());
         hiddenNames.retainAll(openNames);
         Due.yes("no private method bears the name of a public one: " + hiddenNames, hiddenNames.isEmpty());
+    }
+
+    /** Of the classes inside: none of their methods is public, so none may bear a public one's name. */
+    private static TreeSet<String> namesInside() {
+        TreeSet<String> names = new TreeSet<>();
+        for (Class<?> inside : BottomWalks.class.getDeclaredClasses()) {
+            for (Method method : inside.getDeclaredMethods()) {
+                names.add(method.getName());
+            }
+        }
+        return names;
     }
 
     private static String written(Method method) {
@@ -82,6 +94,24 @@ public final class FaceTest {
             Due.no(inside + " is public", Modifier.isPublic(inside.getModifiers()));
             for (Field field : inside.getDeclaredFields()) {
                 Due.yes(field + " is final where it is static", isFinalIfStatic(field));
+            }
+        }
+    }
+
+    /** Rule 11. */
+    private static void sizes() {
+        Class<?>[] inside = BottomWalks.class.getDeclaredClasses();
+        Due.yes(inside.length + " classes inside are at most 12", inside.length <= 12);
+        List<Class<?>> all = new ArrayList<>(Arrays.asList(inside));
+        all.add(BottomWalks.class);
+        for (Class<?> one : all) {
+            int fields = 0;
+            for (Field field : one.getDeclaredFields()) {
+                fields += Modifier.isStatic(field.getModifiers()) ? 0 : 1;
+            }
+            Due.yes(fields + " fields of " + one + " are at most 20", fields <= 20);
+            for (Method method : one.getDeclaredMethods()) {
+                Due.yes(method + " takes at most seven", method.getParameterCount() <= 7);
             }
         }
     }
